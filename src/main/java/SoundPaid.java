@@ -5,7 +5,7 @@ public final class SoundPaid {
     public static final int NONE = -1, BAD = -2, NOT = -3, FULL = -4;
 
     private static final int NULL = 1, INDEX = 2, CAST = 3, STORE = 4, SIZE = 5;
-    private static final int SMELL = 0, SOUND = 1, HEAT = 2, NOTHING = 3;
+    private static final int SMELL = 0, SOUND = 1, HEAT = 2;
     private static final int BYTES = 0, SHORTS = 1;
     private static final int DAYS = 30, KINDS = 3, FORMS = 3;
     private static final int MOST_HOUSES = 8, MOST_WALLS = 7, MOST_SUITS = 12, MOST_SHUT = 8;
