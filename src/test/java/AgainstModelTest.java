@@ -26,13 +26,13 @@ public final class AgainstModelTest {
         for (char sign : houses().toCharArray()) type(0, sign);
         for (char sign : rulings().toCharArray()) type(1, sign);
         int dense = random.nextInt(13);
-        for (int i = 0; i < dense; i++) suit(day(), place(), place());
+        for (int i = 0; i < dense; i += 3) threeSuits(house(), house(), house());
         while (calls < 300) {
             if (random.nextInt(25) == 0) askAll();
             else change();
+            if (calls % 100 == 0) due.is(run + "digest()", x.digest(), m.digest());
             calls++;
         }
-        due.is(run + "digest()", x.digest(), m.digest());
     }
 
     private int any(int low, int high) {
@@ -49,12 +49,12 @@ public final class AgainstModelTest {
     }
 
     private int place() {
-        return random.nextInt(6) == 0 ? any(0, 7) : house();
+        return random.nextInt(12) == 0 ? any(0, 7) : house();
     }
 
     private String houses() {
         int number = random.nextInt(10) == 0 ? random.nextInt(2) : 2 + random.nextInt(7);
-        String kinds = new String[] {"cmho", "cccm", "mmmc", "cmh", "c"}[random.nextInt(5)];
+        String kinds = new String[] {"cmho", "cmh", "cccm", "mmmc", "mmmm", "m", "c"}[random.nextInt(7)];
         StringBuilder text = new StringBuilder();
         for (int i = 0; i < number; i++) {
             if (i > 0) text.append(';');
@@ -66,10 +66,10 @@ public final class AgainstModelTest {
 
     private String rulings() {
         StringBuilder text = new StringBuilder();
-        int number = random.nextInt(7);
+        int number = random.nextInt(5) == 0 ? random.nextInt(4) : 3 + random.nextInt(4);
         for (int i = 0; i < number; i++) {
             if (i > 0) text.append(';');
-            text.append("cmh".charAt(random.nextInt(3))).append(random.nextInt(10));
+            text.append("cmh".charAt(i % 3)).append(random.nextInt(4) == 0 ? random.nextInt(10) : 1 + random.nextInt(3));
         }
         return text.toString();
     }
@@ -88,14 +88,17 @@ public final class AgainstModelTest {
         int form = random.nextInt(3) == 0 ? any(0, 2) : 0;
         int i = any(0, 12);
         switch (random.nextInt(22)) {
-            case 0: typeAny(); break;
-            case 1: if (random.nextInt(8) == 0) due.is(run + "wipe", x.wipe(a), m.wipe(a)); break;
-            case 2: if (random.nextInt(3) == 0) due.is(run + "undo", x.undo(a), m.undo(a)); break;
+            case 0: if (random.nextInt(4) == 0) typeAny(); break;
+            case 1: if (random.nextInt(20) == 0) due.is(run + "wipe", x.wipe(a), m.wipe(a)); break;
+            case 2: if (random.nextInt(8) == 0) due.is(run + "undo", x.undo(a), m.undo(a)); break;
             case 3: retype(); break;
-            case 4: case 5: wall(); break;
-            case 6: case 7: case 8: suit(day(), place(), place()); break;
+            case 4: if (random.nextInt(2) == 0) wall(); break;
+            case 5: if (random.nextInt(6) == 0) noWalls(); break;
+            case 6: case 7: suit(day(), place(), place()); break;
+            case 8: threeSuits(house(), house(), house()); break;
             case 9: case 10: shut(day(), place()); break;
-            case 11: case 12: due.is(run + "back", x.back(a), m.back(a)); break;
+            case 11: if (random.nextInt(2) == 0) due.is(run + "back", x.back(a), m.back(a)); break;
+            case 12: if (random.nextInt(40) == 0) undoAllSuits(); break;
             case 13: due.is(run + "read", x.read(s), m.read(s)); break;
             case 14: sheet(s, form, random.nextBoolean() ? any(0, 12) : any(0, 60)); break;
             case 15: if (random.nextInt(4) == 0) due.is(run + "lose", x.lose(s), m.lose(s)); break;
@@ -103,7 +106,7 @@ public final class AgainstModelTest {
             case 18: copy(s, i, any(0, 3), any(0, 12), any(0, 6)); break;
             case 19: write(house(), s); break;
             case 20: seen(day(), place()); break;
-            default: due.is(run + "forget", x.forget(), m.forget()); break;
+            default: if (random.nextInt(2) == 0) due.is(run + "forget", x.forget(), m.forget()); break;
         }
         askOne();
     }
@@ -113,9 +116,10 @@ public final class AgainstModelTest {
         else type(any(0, 1), "cmho;0123456789".charAt(random.nextInt(15)));
     }
 
+    /** Broken texts are soon mended, so that most questions find houses. */
     private void retype() {
-        if (random.nextInt(4) != 0) return;
         int text = random.nextInt(2);
+        if (m.texts[text].length() > 0 && m.fault(text) == -1 && random.nextInt(6) != 0) return;
         due.is(run + "wipe", x.wipe(text), m.wipe(text));
         for (char sign : (text == 0 ? houses() : rulings()).toCharArray()) type(text, sign);
     }
@@ -126,8 +130,23 @@ public final class AgainstModelTest {
         due.is(run + "wall", x.wall(wall, thick), m.wall(wall, thick));
     }
 
+    private void noWalls() {
+        for (int wall = 0; wall <= 6; wall++) due.is(run + "wall", x.wall(wall, 0), m.wall(wall, 0));
+    }
+
     private void shut(int day, int house) {
         due.is(run + "shut", x.shut(day, house), m.shut(day, house));
+    }
+
+    private void threeSuits(int a, int b, int c) {
+        suit(day(), a, b);
+        suit(day(), b, c);
+        suit(day(), c, a);
+    }
+
+    private void undoAllSuits() {
+        int left = random.nextInt(6);
+        while (m.suits.size() > left) due.is(run + "back", x.back(0), m.back(0));
     }
 
     private void sheet(int s, int form, int n) {
@@ -153,7 +172,9 @@ public final class AgainstModelTest {
         boolean told = Model.in(day, 0, 29) && Model.in(house, 0, m.count(0) - 1);
         if (told && random.nextInt(6) != 0) {
             Model.World w = m.world();
-            if (!m.suits.isEmpty() && random.nextBoolean()) w = w.without(random.nextInt(m.suits.size()));
+            int way = random.nextInt(3);
+            if (!m.suits.isEmpty() && way == 0) w = w.without(random.nextInt(m.suits.size()));
+            if (way == 1) w.houses.get(random.nextInt(w.houses.size()))[1] = random.nextInt(10);
             much = w.balance(day, house);
         }
         due.is(run + "seen", x.seen(day, house, much), m.seen(day, house, much));

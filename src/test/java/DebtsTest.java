@@ -24,6 +24,11 @@ public final class DebtsTest {
         dueThrough(x, walled);
         x.shut(0, 0);
         dueThrough(x, walled);
+        x.wall(1, 4);
+        x.wall(2, 5);
+        due.is("13 half of 4", x.through(1, 2), 7);
+        due.is("13 half of 4, half of 5 cut", x.through(1, 3), 4);
+        due.is("13 from the other side", x.through(4, 1), 2);
         int[][] bad = {{0, 0}, {-1, 0}, {0, -1}, {5, 0}, {0, 5}};
         for (int[] row : bad) due.is("13 BAD", x.through(row[0], row[1]), -2);
     }
@@ -74,6 +79,16 @@ public final class DebtsTest {
         due.is("15 day 2", x.balance(2, 0), 38);
         due.is("15 below 0", x.balance(2, 1), -26);
         due.is("15 below 0", x.balance(2, 2), -12);
+        x.undo(0);
+        due.is("15 no such house now", x.balance(2, 0), -100002);
+        x.wipe(0);
+        Due.type(x, 0, "c5c0;c2c0");
+        due.is("15 one that there is not pays nothing", x.balance(2, 0), 26);
+        x.suit(0, 2, 0);
+        due.is("15 one that there is not is paid nothing", x.balance(2, 0), 26);
+        x.back(0);
+        Due.type(x, 0, ";o0c0");
+        due.is("15 it is there again", x.balance(2, 0), 38);
         x.wall(0, 1);
         due.is("15 another wall", x.balance(0, 0), 8);
         Due.type(x, 1, ";c9");
@@ -177,6 +192,12 @@ public final class DebtsTest {
         due.is("20 the least", x.rings(2, 1), 8 + 3);
         x.shut(2, 0);
         due.is("20 owes nothing yet", x.rings(2, 0), 1);
+        SoundPaid little = Due.street("c3c0;c2c0;c3c0", "c1");
+        little.suit(0, 0, 1);
+        little.suit(0, 1, 2);
+        little.suit(0, 2, 0);
+        due.is("20 1 a day", little.owes(0, 0, 2), 1);
+        due.is("20 1 a day is enough", little.rings(0, 1), 8 + 2);
         int[][] bad = {{-1, 0}, {30, 0}, {0, -1}, {0, 2}};
         for (int[] row : bad) due.is("20 BAD", x.rings(row[0], row[1]), -2);
     }

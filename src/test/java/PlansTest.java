@@ -69,6 +69,10 @@ public final class PlansTest {
         even.suit(0, 1, 0);
         dueFair(even, 0, 0, 2, 4);
         dueFair(even, 0, 1, 0, 4);
+        SoundPaid steep = Due.street("c1m0;m9c0", "m9");
+        steep.suit(0, 0, 1);
+        steep.suit(0, 1, 0);
+        dueFair(steep, 0, 0, 9, 72);
         dueFair(new SoundPaid(), 0, 0, -1, -1);
         int[][] bad = {{-1, 0, 0}, {30, 0, 0}, {0, -1, 0}, {0, 3, 0}, {0, 0, -1}, {0, 0, 2}};
         for (int[] row : bad) due.is("22 BAD", x.fair(row[0], row[1], row[2]), -2);
@@ -107,6 +111,14 @@ public final class PlansTest {
         early.suit(1, 1, 2);
         due.is("23 rich by then", early.balance(2, 1), 3);
         dueDrop(early, 1, 1, 0, -1);
+        // house 0, sued by a house that is shut for a while
+        SoundPaid shut = Due.street("o0c6;c5o0", "c1");
+        shut.suit(0, 1, 0);
+        shut.shut(1, 1);
+        shut.shut(2, 0);
+        dueDrop(shut, 1, 0, -1, -1);
+        dueDrop(shut, 2, 1, 0, -1);
+        due.is("23 asks twice, drops nothing", shut.count(4), 1);
         int[][] bad = {{-1, 0}, {30, 0}, {0, -2}, {0, 2}};
         for (int[] row : bad) due.is("23 BAD", x.drop(row[0], row[1]), -2);
     }
@@ -225,6 +237,28 @@ public final class PlansTest {
         dueCourt(x, 16, 0, 0, 0, 1);
         x.shut(0, 1);
         dueCourt(x, 4, 0, 0, 1, 4);
+        // houses 1 and 2 between themselves are nothing to house 0
+        SoundPaid three = Due.street("c5c0;c4c0;c3c0", "c1");
+        three.suit(0, 0, 1);
+        three.suit(0, 1, 2);
+        three.suit(0, 2, 1);
+        dueCourt(three, 4, 0, 0, 1, 4);
+        dueCourt(three, 4, 0, 1, 3, 16);
+        // to house 1 the suits of 0 and of 2 against it are two: it stays above 0 by 4 less 3
+        SoundPaid four = Due.street("c5c0;c4c0;c3c0", "c1");
+        four.suit(0, 1, 2);
+        four.suit(0, 2, 1);
+        four.suit(0, 0, 1);
+        dueCourt(four, 8, 0, 1, 1, 4);
+        dueCourt(four, 8, 0, 0, 1, 2);
+        dueCourt(four, 8, 0, 2, 1, 4);
+        SoundPaid little = Due.street("c1o0;o0c0", "c1");
+        little.suit(0, 0, 1);
+        dueCourt(little, 4, 0, 0, 1, 4);
+        SoundPaid wide = Due.street("c9c0;c9c0;c9c0;c9c0;c9c0;c9c0;c9c0;c9c0", "c1");
+        wide.suit(0, 3, 7);
+        wide.suit(0, 0, 3);
+        dueCourt(wide, 8, 0, 3, 1, 4);
         SoundPaid many = Due.street("c9o0;o0c0", "c1");
         for (int n = 0; n < 12; n++) many.suit(0, 0, 1);
         dueCourt(many, 1, 0, 0, 281474976710656L - 129746337890625L, 281474976710656L);

@@ -14,6 +14,7 @@ public final class SheetsTest {
         promise37Count();
         promise38DigestOfNothing();
         promise38DigestOfAStreet();
+        promise38DigestAsTheCallsAnswer();
         due.end();
     }
 
@@ -37,6 +38,9 @@ public final class SheetsTest {
         due.is("12 suits", x.count(4), 3);
         fill(x, 1, 1, 0, 0, 1, 30, 0, 1);
         due.is("12 a DAY that there is not", x.read(1), 1);
+        fill(x, 1, 1, 0, 0, 1, 1, 0, 1);
+        due.is("12 all of them", x.read(1), 2);
+        due.is("12 suits", x.count(4), 6);
         x.sheet(2, 0, 2);
         due.is("12 none whole", x.read(2), 0);
         x.sheet(2, 0, 0);
@@ -44,7 +48,7 @@ public final class SheetsTest {
         int[] many = new int[60];
         for (int i = 2; i < 60; i += 3) many[i] = 1;
         fill(x, 3, 0, many);
-        due.is("12 up to FULL", x.read(3), 8);
+        due.is("12 up to FULL", x.read(3), 6);
         due.is("12 FULL", x.read(3), 0);
         due.is("12 twelve", x.count(4), 12);
     }
@@ -235,5 +239,52 @@ public final class SheetsTest {
             day29[0], day29[1], day29[2], day29[3], day29[4], day29[5], day29[6], day29[7],
             0, open);
         due.is("38 of a street", x.digest(), want);
+    }
+
+    /** A street on which days 9 and 10, 0, 1, 5 and 6, 29 and 28 differ in all that the digest asks. */
+    private static void promise38DigestAsTheCallsAnswer() {
+        SoundPaid x = Due.street("c9m2;m7c9;c8c0;c6c1", "c2;m3;h1");
+        int[][] suits = {{0, 1, 0}, {0, 0, 2}, {1, 2, 0}, {3, 1, 0}, {4, 0, 1}, {5, 1, 2}, {6, 2, 1}, {10, 2, 3},
+            {10, 1, 3}, {29, 3, 2}};
+        for (int[] row : suits) x.suit(row[0], row[1], row[2]);
+        x.wall(1, 1);
+        x.shut(10, 0);
+        x.shut(2, 2);
+        long[] row = new long[200];
+        int n = 0;
+        for (int what = 0; what <= 7; what++) row[n++] = x.count(what);
+        row[n++] = x.fault(0);
+        row[n++] = x.fault(1);
+        for (int house = 0; house < 4; house++) {
+            for (int what = 0; what <= 3; what++) row[n++] = x.house(house, what);
+            row[n++] = x.through(0, house);
+            row[n++] = x.owes(9, 0, house);
+            row[n++] = x.balance(9, house);
+            row[n++] = x.balance(29, house);
+            row[n++] = x.broke(house);
+            for (int what = 0; what <= 2; what++) row[n++] = x.build(9, house, what);
+            row[n++] = x.leaked(house);
+            row[n++] = x.court(5, 9, house, 0);
+            row[n++] = x.court(5, 9, house, 1);
+            row[n++] = x.month(7, 20, house);
+        }
+        for (int kind = 0; kind <= 2; kind++) {
+            row[n++] = x.rate(kind);
+            row[n++] = x.fair(9, kind, 0);
+            row[n++] = x.fair(9, kind, 1);
+        }
+        for (int day = 0; day <= 29; day = day == 0 ? 5 : day == 5 ? 29 : 30) {
+            row[n++] = x.coin(day);
+            row[n++] = x.richest(day);
+            row[n++] = x.payments(day);
+            row[n++] = x.rings(day, 0);
+            row[n++] = x.rings(day, 1);
+            row[n++] = x.drop(day, -1);
+            row[n++] = x.drop(day, 0);
+            row[n++] = x.ask(day);
+        }
+        row[n++] = x.never();
+        row[n++] = x.month(7, 20, -1);
+        due.is("38 as the calls answer", x.digest(), fold(java.util.Arrays.copyOf(row, n)));
     }
 }
