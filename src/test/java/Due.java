@@ -1,13 +1,28 @@
 /** Compares answers with those that are due, and ends a test. */
 final class Due {
+    private static final int MOST_SHOWN = 40;
+
     private int wrong = 0;
     private int asked = 0;
+    private int shown = 0;
+    private String about = "";
+
+    /** What the next answers are about stands ahead of each that is wrong. */
+    void about(String words) {
+        about = words;
+        shown = 0;
+    }
 
     void is(String call, long got, long want) {
         asked++;
         if (got == want) return;
         wrong++;
-        if (wrong <= 40) System.out.println(call + " answered " + got + ", due is " + want);
+        shown++;
+        if (shown <= MOST_SHOWN) System.out.println(about + call + " answered " + got + ", due is " + want);
+    }
+
+    int asked() {
+        return asked;
     }
 
     void end() {
