@@ -250,12 +250,19 @@ public final class SheetsTest {
         x.wall(1, 1);
         x.shut(10, 0);
         x.shut(2, 2);
+        due.is("38 as the calls answer", x.digest(), asTheCallsAnswer(x));
+        SoundPaid late = Due.street("c5o0;o0c0", "c1");
+        late.suit(10, 0, 1);
+        due.is("38 a SUIT on the DAY behind 9", late.digest(), asTheCallsAnswer(late));
+    }
+
+    private static long asTheCallsAnswer(SoundPaid x) {
         long[] row = new long[200];
         int n = 0;
         for (int what = 0; what <= 7; what++) row[n++] = x.count(what);
         row[n++] = x.fault(0);
         row[n++] = x.fault(1);
-        for (int house = 0; house < 4; house++) {
+        for (int house = 0; house < x.count(0); house++) {
             for (int what = 0; what <= 3; what++) row[n++] = x.house(house, what);
             row[n++] = x.through(0, house);
             row[n++] = x.owes(9, 0, house);
@@ -285,6 +292,6 @@ public final class SheetsTest {
         }
         row[n++] = x.never();
         row[n++] = x.month(7, 20, -1);
-        due.is("38 as the calls answer", x.digest(), fold(java.util.Arrays.copyOf(row, n)));
+        return fold(java.util.Arrays.copyOf(row, n));
     }
 }
